@@ -84,9 +84,7 @@ public final class SpaceBasis {
     }
 
     public void clear() {
-        generators.count = 0;
-        emptyHand();
-        space.forget();
+        beginAnew();
     }
 
     public int basis(int d) throws IllegalArgumentException {
@@ -162,6 +160,10 @@ public final class SpaceBasis {
     private void beginField(int p, int n, int order) {
         modulus.prime = p;
         monomials.list(n, order);
+        beginAnew();
+    }
+
+    private void beginAnew() {
         generators.count = 0;
         emptyHand();
         space.forget();
