@@ -1,3 +1,5 @@
+import java.util.List;
+
 /** What the tests share: counts and prints each answer that is not the one that is due. */
 final class Due {
     private static int wrong = 0;
@@ -18,6 +20,21 @@ final class Due {
 
     static void fails(String what, boolean got) {
         is(what, got ? 1 : 0, 0);
+    }
+
+    /** Two rows of answers must be the same; the first difference is told. */
+    static void same(String what, List<Long> got, List<Long> want) {
+        if (got.equals(want)) {
+            return;
+        }
+        wrong++;
+        int i = 0;
+        while (i < got.size() && i < want.size() && got.get(i).equals(want.get(i))) {
+            i++;
+        }
+        System.out.println(what + ": answer " + i + " of " + got.size() + " is "
+            + (i < got.size() ? got.get(i) : "missing") + ", due is "
+            + (i < want.size() ? want.get(i) : "nothing"));
     }
 
     /** The call must throw just this exception. */

@@ -22,7 +22,7 @@ public final class ModelTest {
     }
 
     public static void main(String[] args) {
-        for (int run = 0; run < 120; run++) {
+        for (int run = 0; run < 140; run++) {
             new ModelTest(run).play();
         }
         Due.end("ModelTest");
@@ -53,7 +53,7 @@ public final class ModelTest {
 
     private void play() {
         setField();
-        while (calls < 480) {
+        while (calls < 400) {
             switch (below(12)) {
                 case 0:
                     if (below(6) == 0) {
