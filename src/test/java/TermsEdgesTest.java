@@ -16,6 +16,7 @@ public final class TermsEdgesTest {
         productsOfWhatFell();
         noOtherLeadDivides();
         noOtherLeadInside();
+        completeStaysTheSame();
         Due.end("TermsEdgesTest");
     }
 
@@ -246,5 +247,56 @@ public final class TermsEdgesTest {
         Due.is("x y", s.member(1, Due.m(1, 1)), 5 * 4 % 11);
         Due.is("y", s.member(1, Due.m(0, 1)), 3 * 4 % 11);
         Due.is("1", s.member(1, 0), 2 * 4 % 11);
+    }
+
+    /** "(Then a polynomial is in the ideal just if its REMAINDER is 0.)": no degree gives more. */
+    private static void completeStaysTheSame() {
+        // With the sphere and the saddle y^3 leads too, and meets xy in x y^3; with the last two the
+        // third lead is x z^2 or y^2 w, and meets the first in x y z^2 or x y^2 w: up to 4 for each.
+        int[] curve = {Due.m(2, 1), 1, 0, -1};
+        int[] curves = {Due.m(1, 2), 1, Due.m(1, 0), -1};
+        int[] sphere = {Due.m(2, 0, 0, 0), 1, Due.m(0, 2, 0, 0), 1, Due.m(0, 0, 2, 0), 1, 0, -1};
+        int[] saddle = {Due.m(1, 1, 0, 0), 1, Due.m(0, 0, 1, 0), -1};
+        int[] cone = {Due.m(1, 0, 0, 1), 1, Due.m(0, 1, 1, 0), -1};
+        int[] cubic = {Due.m(0, 2, 0, 0), 1, Due.m(1, 0, 1, 0), -1};
+        for (int order = 0; order <= 1; order++) {
+            completeStays("x^2 y - 1, x y^2 - x", 2, order, 4, curve, curves);
+            completeStays("x^12 - 1", 2, order, 12, new int[] {Due.m(12, 0), 1, 0, -1});
+            completeStays("a sphere, a saddle", 3, order, 4, sphere, saddle);
+            completeStays("xw - yz, y^2 - xz", 4, order, 4, cone, cubic);
+            completeStays("xw - yz, 1, w^5", 4, order, 5, cone, new int[] {0, 1}, new int[] {5, 1});
+        }
+    }
+
+    /** From the first degree on with which the basis is complete, all polynomials stay. */
+    private static void completeStays(String what, int n, int order, int first, int[]... generators) {
+        List<Long> earlier = null;
+        for (int d = 0; d <= Edges.HIGHEST[n]; d++) {
+            SpaceBasis s = Edges.of(101, n, order);
+            for (int[] generator : generators) {
+                Due.joined(s, generator);
+            }
+            s.basis(d);
+            String where = what + ", order " + order + ", up to " + d;
+            Due.is(where + ": complete", s.ideal(0), d < first ? 0 : 1);
+            List<Long> now = polynomials(s, n);
+            if (d > first) {
+                Due.same(where, now, earlier);
+            }
+            earlier = now;
+        }
+    }
+
+    private static List<Long> polynomials(SpaceBasis s, int n) {
+        List<Long> all = new ArrayList<>();
+        for (int k = 0; k < s.ideal(1); k++) {
+            all.add((long) s.lead(k));
+            for (int e : Edges.upToDegree(n, Math.min(5, Edges.HIGHEST[n]))) {
+                if (Edges.degree(e) <= Edges.degree(s.lead(k))) {
+                    all.add((long) s.member(k, e));
+                }
+            }
+        }
+        return all;
     }
 }
